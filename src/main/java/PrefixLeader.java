@@ -322,7 +322,7 @@ public final class PrefixLeader {
             if (this.address[i] == address) {
                 return this.bits[i] < bits;
             }
-            return first(i) < wide(address);
+            return wide(this.address[i]) < wide(address);
         }
 
         /** The place behind the LINES from a place on that begin with a BEGINNING. */
@@ -358,7 +358,9 @@ public final class PrefixLeader {
         /** Beyond the room nothing is added. */
         void append(int address, int bits, int goal) {
             if (size < room) {
-                write(size, address, bits, goal);
+                this.address[size] = address;
+                this.bits[size] = bits;
+                this.goal[size] = goal;
                 size++;
             }
         }
@@ -449,7 +451,7 @@ public final class PrefixLeader {
      * THE PRESSED TREE of LINES, with THE SET of each node.
      *
      * <p>Between a node and its child all that hangs aside goes where the node's own addresses go,
-     * so THE SETS there need not be kept: see lifted.
+     * so THE SETS there need not be kept: see setOfSide.
      */
     private static final class Tree {
         private static final int MOST_NODES = 2 * TWO_BOOKS;
@@ -463,7 +465,8 @@ public final class PrefixLeader {
         private int size;
 
         void plantWhole(Lines lines) {
-            plant(lines, 0, lines.size, 0, 0, NOWHERE);
+            size = 0;
+            grow(lines, 0, lines.size, 0, 0, NOWHERE);
         }
 
         /** The tree below a BEGINNING, to which a GOAL comes, of the LINES that begin with it. */
@@ -508,15 +511,12 @@ public final class PrefixLeader {
             if (child < 0 || child >= size) {
                 return own;
             }
-            return lifted(sets[child], own, bits[child] - bits[node] - 1);
-        }
-
-        private static int lifted(int set, int beside, int levels) {
+            int levels = bits[child] - bits[node] - 1;
             if (levels <= 0) {
-                return set;
+                return sets[child];
             }
             // The second level up has in common with what hangs beside it just that.
-            return levels == 1 ? both(set, beside) : beside;
+            return levels == 1 ? both(sets[child], own) : own;
         }
 
         private static int both(int setA, int setB) {

@@ -6,6 +6,8 @@ public final class LeastTest {
     public static void main(String[] args) {
         leastOfFew();
         leastBeside();
+        leastByTwins();
+        leastOfNested();
         leastOfNowhere();
         leastOfAll();
         set();
@@ -55,6 +57,36 @@ public final class LeastTest {
         leader.put(2, 0x00000002, 32, 3);
         leader.least(2, 3);
         dueLines("deep", leader, 3, new int[][] {{0, 0, 4}, {1, 32, 16}, {2, 32, 3}});
+    }
+
+    private static void leastByTwins() {
+        PrefixLeader leader = new PrefixLeader();
+        leader.put(0, 0, 0, 4);
+        leader.put(0, 0x80000000, 1, 5);
+        leader.copy(0, 1);
+        leader.put(0, 0x40000000, 2, 5);
+        leader.put(0, 0x60000000, 3, 6);
+        leader.least(0, 0);
+        dueLines("the lower twin", leader, 0, new int[][] {{0, 0, 5}, {0, 2, 4}, {0x60000000, 3, 6}});
+        leader.put(1, 0, 2, 5);
+        leader.put(1, 0x20000000, 3, 6);
+        leader.least(1, 1);
+        dueLines("the upper twin", leader, 1, new int[][] {{0, 0, 5}, {0x20000000, 3, 6}, {0x40000000, 2, 4}});
+    }
+
+    /** A line of each length, one in the other: no tree is deeper. */
+    private static void leastOfNested() {
+        PrefixLeader leader = new PrefixLeader();
+        for (int n = 0; n <= 32; n++) {
+            leader.put(0, 0, n, n == 32 ? 5 : n == 30 ? 2 : n % 2);
+        }
+        int lines = leader.least(0, 1);
+        Due.is("nested: the same", leader.same(0, 1), 1);
+        int place = leader.longest(1, 0);
+        Due.is("nested: the deepest", leader.line(1, place, 1), 32);
+        Due.is("nested: its goal", leader.line(1, place, 2), 5);
+        Due.is("nested: again", leader.least(1, 2), lines);
+        Due.is("nested: set", leader.set(0, 0, 31), 1 << 5 | 1 << 1);
     }
 
     private static void leastOfNowhere() {
