@@ -18,6 +18,14 @@ final class Due {
         is(call, got ? 1L : 0L, want ? 1L : 0L);
     }
 
+    static void is(String call, String got, String want) {
+        checked++;
+        if (!got.equals(want)) {
+            wrong++;
+            System.out.println(call + " answered '" + got + "', due is '" + want + "'");
+        }
+    }
+
     static int wrong() {
         return wrong;
     }
