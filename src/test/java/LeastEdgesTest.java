@@ -7,6 +7,8 @@ public final class LeastEdgesTest {
         setOfAllBits();
         setOfWhatBothHave();
         setOfAllOfBoth();
+        setBesideAllLines();
+        setOfFull();
         setRefused();
         nowhereComesToTheEmptyOne();
         theLeastGoalOfTheSet();
@@ -101,6 +103,31 @@ public final class LeastEdgesTest {
         Due.is("not if both have one", leader.set(0, 0, 0), 1);
     }
 
+    private static void setBesideAllLines() {
+        PrefixLeader leader = withLines(new int[] {0x40000000, 3, 1}, new int[] {0x50000000, 4, 2}, new int[] {0x80000000, 2, 3});
+        Due.is("ahead of the first", leader.set(0, 0, 2), 1 << 16);
+        Due.is("between two", leader.set(0, 0x60000000, 3), 1 << 16);
+        Due.is("in one, ahead of one in it", leader.set(0, 0x40000000, 4), 1 << 1);
+        Due.is("behind the last", leader.set(0, 0xC0000000, 2), 1 << 16);
+        leader.drop(0, 0x80000000, 2);
+        Due.is("where the last was", leader.set(0, 0x80000000, 2), 1 << 16);
+    }
+
+    private static void setOfFull() {
+        PrefixLeader leader = new PrefixLeader();
+        for (int i = 0; i < 64; i++) {
+            leader.put(0, i << 26, 6, i < 32 ? 1 : 2);
+        }
+        Due.is("of all LINES", leader.set(0, 0, 0), 1 << 1 | 1 << 2);
+        Due.is("of the last ones", leader.set(0, 0x80000000, 1), 1 << 2);
+        Due.is("of the last one", leader.set(0, 0xFC000000, 6), 1 << 2);
+        Due.is("below the last one", leader.set(0, -1, 32), 1 << 2);
+        leader.put(0, 0xFC000000, 6, 3);
+        Due.is("of the last two", leader.set(0, 0xF8000000, 5), 1 << 2 | 1 << 3);
+        leader.drop(0, 0xFC000000, 6);
+        Due.is("the last has gone", leader.set(0, 0xF8000000, 5), 1 << 2 | 1 << 16);
+    }
+
     /** 10: "NONE: no such BOOK, BEGINNING." */
     private static void setRefused() {
         for (int b : Scene.NO_BOOKS) {
@@ -142,6 +169,10 @@ public final class LeastEdgesTest {
                 new int[] {0x40000000, 2, 2}, new int[] {0x80000000, 2, 1}, new int[] {0xC0000000, 2, 3});
         dueLeast("what came from far above", " 0/0->6 0/32->7 4294967295/32->8", new int[] {0, 0, 6},
                 new int[] {0, 32, 7}, new int[] {-1, 32, 8});
+        dueLeast("a LINE beside the lower twin", " 0/0->5 0/2->4 1610612736/3->6", new int[] {0, 0, 4},
+                new int[] {0x80000000, 1, 5}, new int[] {0x40000000, 2, 5}, new int[] {0x60000000, 3, 6});
+        dueLeast("a LINE beside the upper twin", " 0/0->5 536870912/3->6 1073741824/2->4", new int[] {0, 0, 4},
+                new int[] {0x80000000, 1, 5}, new int[] {0, 2, 5}, new int[] {0x20000000, 3, 6});
         dueLeast("NOWHERE from far above", " 1/32->7 4294967294/32->8", new int[] {1, 32, 7}, new int[] {-2, 32, 8});
     }
 
@@ -149,7 +180,8 @@ public final class LeastEdgesTest {
     private static void nothingBelowOneGoal() {
         dueLeast("33 LINES of one GOAL", " 0/0->4", nested(4, 4));
         dueLeast("two halves of one GOAL", " 0/0->4", new int[] {0, 1, 4}, new int[] {0x80000000, 1, 4});
-        dueLeast("two halves hide a LINE", " 0/0->4", new int[] {0, 0, 9}, new int[] {0, 1, 4}, new int[] {0x80000000, 1, 4});
+        dueLeast("two halves hide a LINE", " 0/0->4",
+                new int[] {0, 0, 9}, new int[] {0, 1, 4}, new int[] {0x80000000, 1, 4});
         dueLeast("the last two ADDRESSES", " 4294967294/31->4", new int[] {-2, 32, 4}, new int[] {-1, 32, 4});
         dueLeast("two that are no pair", " 1/32->4 2/32->4", new int[] {1, 32, 4}, new int[] {2, 32, 4});
     }

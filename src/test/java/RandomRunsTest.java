@@ -70,7 +70,10 @@ public final class RandomRunsTest {
 
     private void due(String call, long got, long want) {
         calls++;
-        Due.is(name + call, got, want);
+        // What later calls answer is free.
+        if (calls <= CALLS) {
+            Due.is(name + call, got, want);
+        }
     }
 
     private int book() {

@@ -13,7 +13,8 @@ public final class RoomTest {
         }
         long answers = callAll(leader);
         long before = allocated();
-        for (int round = 0; round < 40; round++) {
+        // As many rounds as keep the object within its 512 calls.
+        for (int round = 0; round < 12; round++) {
             answers += callAll(leader);
         }
         long bytes = allocated() - before;

@@ -10,6 +10,9 @@ public final class TreeEdgesTest {
         aStrideForALineOfMoreBits();
         theEmptyStride();
         eachStrideOnce();
+        eachStrideOnceInTheUpperHalf();
+        aLineThatHasGone();
+        aFullBookOfFewBits();
         mostStrides();
         theMostSteps();
         theLeastAddressThatDoes();
@@ -118,6 +121,49 @@ public final class TreeEdgesTest {
         Due.is("beside its 30 bits", leader.nodes(0, 1), 8);
     }
 
+    private static void eachStrideOnceInTheUpperHalf() {
+        PrefixLeader leader = withLines(new int[] {0x80000000, 13}, new int[] {0x80080000, 13}, new int[] {0xFC000000, 7});
+        Due.is("two LINES below one, and another", leader.nodes(0, 1), 4);
+        leader.put(0, -2, 31, 1);
+        leader.put(0, -1, 32, 1);
+        Due.is("four more below", leader.nodes(0, 1), 8);
+    }
+
+    private static void aLineThatHasGone() {
+        PrefixLeader leader = withLines(new int[] {0, 6}, new int[] {-1, 32});
+        leader.drop(0, -1, 32);
+        long[] due = {2, 1, 1, 0};
+        for (int what = 0; what < 4; what++) {
+            Due.is("the deepest has gone, what " + what, leader.nodes(0, what), due[what]);
+        }
+        Due.is("its STEPS", leader.steps(0, -1), 1);
+        leader.drop(0, 0, 6);
+        due[0] = 1;
+        for (int what = 0; what < 4; what++) {
+            Due.is("all have gone, what " + what, leader.nodes(0, what), due[what]);
+        }
+    }
+
+    private static void aFullBookOfFewBits() {
+        PrefixLeader leader = new PrefixLeader();
+        for (int i = 0; i < 64; i++) {
+            leader.put(0, i << 26, 6, 1);
+        }
+        long[] due = {127, 1, 1, 0};
+        for (int what = 0; what < 4; what++) {
+            Due.is("64 LINES of 6 bits, what " + what, leader.nodes(0, what), due[what]);
+        }
+        Due.is("STEPS of the last", leader.steps(0, -1), 1);
+        leader.drop(0, 0xFC000000, 6);
+        leader.put(0, 0xFC000000, 7, 1);
+        long[] deeper = {127, 2, 2, 0xFC000000L};
+        for (int what = 0; what < 4; what++) {
+            Due.is("the last of 7 bits, what " + what, leader.nodes(0, what), deeper[what]);
+        }
+        Due.is("STEPS of the last", leader.steps(0, -1), 2);
+        Due.is("STEPS of one ahead", leader.steps(0, 0xFBFFFFFF), 1);
+    }
+
     private static void mostStrides() {
         PrefixLeader leader = new PrefixLeader();
         for (int i = 0; i < 64; i++) {
@@ -157,6 +203,8 @@ public final class TreeEdgesTest {
         Due.is("of two", leader.nodes(0, 3), 0x80000004L);
         leader.drop(0, 0x80000004, 32);
         Due.is("the last", leader.nodes(0, 3), 0xFFFFFFFCL);
+        leader = withLines(new int[] {0, 12}, new int[] {0x40000000, 6}, new int[] {0x80000000, 13});
+        Due.is("not that of a LINE of 12 bits", leader.nodes(0, 3), 0x80000000L);
     }
 
     /** "An ADDRESS takes so many STEPS as there are nodes of THE STRIDES with which it begins." */

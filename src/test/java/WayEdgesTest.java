@@ -2,6 +2,9 @@
 public final class WayEdgesTest {
     private static final int NONE = Scene.NONE;
     private static final int NOWHERE = Scene.NOWHERE;
+    private static final int[][] MANY = {
+        {0, 0, 1}, {0, 32, 2}, {0x7FFFFFFF, 32, 3}, {0x80000000, 32, 4}, {-1, 32, 5}, {0x80000000, 1, 6},
+    };
 
     public static void main(String[] args) {
         noStepNeeded();
@@ -75,16 +78,13 @@ public final class WayEdgesTest {
 
     /** "those of more bits first, of like ones by ADDRESS" */
     private static void putsOfMoreBitsFirst() {
-        dueWay("puts", new int[0][],
-                new int[][] {{0, 0, 1}, {0, 32, 2}, {0x7FFFFFFF, 32, 3}, {0x80000000, 32, 4}, {-1, 32, 5}, {0x80000000, 1, 6}},
+        dueWay("puts", new int[0][], MANY,
                 " +0/32->2 +2147483647/32->3 +2147483648/32->4 +4294967295/32->5 +2147483648/1->6 +0/0->1");
     }
 
     /** "dropped, those of fewer bits first, of like ones by ADDRESS" */
     private static void dropsOfFewerBitsFirst() {
-        dueWay("drops",
-                new int[][] {{0, 0, 1}, {0, 32, 2}, {0x7FFFFFFF, 32, 3}, {0x80000000, 32, 4}, {-1, 32, 5}, {0x80000000, 1, 6}},
-                new int[0][],
+        dueWay("drops", MANY, new int[0][],
                 " -0/0->1 -2147483648/1->6 -0/32->2 -2147483647/32->3 -2147483648/32->4 -4294967295/32->5");
         dueWay("puts ahead of drops", new int[][] {{0, 32, 1}}, new int[][] {{0, 0, 2}}, " +0/0->2 -0/32->1");
     }
