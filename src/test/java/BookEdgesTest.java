@@ -175,6 +175,9 @@ public final class BookEdgesTest {
         for (int n : new int[] {-31, 0, 2, 31, 33}) {
             Scene.changesNothing("drop of the upper half, n " + n, leader -> leader.drop(0, 0x80000000, n) ? 1 : 0, 0);
         }
+        for (int n : new int[] {-1, 31, 33, 64, Scene.LOW, Scene.HIGH}) {
+            Scene.changesNothing("drop of the last ADDRESS, n " + n, leader -> leader.drop(0, -1, n) ? 1 : 0, 0);
+        }
         Scene.changesNothing("drop, another bit", leader -> leader.drop(0, 1, 0) ? 1 : 0, 0);
         Scene.changesNothing("drop, one bit more", leader -> leader.drop(0, 0x80000001, 1) ? 1 : 0, 0);
         Scene.changesNothing("drop, an ADDRESS that is LED", leader -> leader.drop(0, 5, 32) ? 1 : 0, 0);

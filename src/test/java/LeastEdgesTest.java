@@ -135,6 +135,7 @@ public final class LeastEdgesTest {
         }
         for (int n : new int[] {-1, 33, 64, Scene.LOW, Scene.HIGH}) {
             Scene.changesNothing("set, n " + n, leader -> leader.set(0, 0, n), NONE);
+            Scene.changesNothing("set of the last ADDRESS, n " + n, leader -> leader.set(0, -1, n), NONE);
         }
         Scene.changesNothing("set, the first bit, n 0", leader -> leader.set(0, 0x80000000, 0), NONE);
         Scene.changesNothing("set, the last bit, n 31", leader -> leader.set(0, 1, 31), NONE);
