@@ -222,6 +222,10 @@ public final class LeastEdgesTest {
         Due.is("and they stay", Scene.lines(leader, 2), Scene.lines(leader, 1));
         Due.is("the first ADDRESS", leader.find(1, 0), 1);
         Due.is("the last ADDRESS", leader.find(1, -1), 1);
+        leader.put(0, 0, 32, 5);
+        leader.least(0, 1);
+        Due.is("a LINE of its own for the deepest", leader.line(1, leader.longest(1, 0), 1), 32);
+        Due.is("the same", leader.same(0, 1), 1);
     }
 
     private static void leastInPlaceOfItsOwn() {
