@@ -433,7 +433,12 @@ public final class PrefixLeader {
         /** With how many bits all LINES from one to another begin alike. */
         int commonBits(int from, int to) {
             // Of LINES in order the first has the fewest bits of those that lie in one another.
-            return Math.min(bits[from], Integer.numberOfLeadingZeros(address[from] ^ address[to]));
+            int apart = address[from] ^ address[to];
+            int n = 0;
+            while (n < bits[from] && (apart & bitAt(n)) == 0) {
+                n++;
+            }
+            return n;
         }
 
         /** The first of LINES of more bits whose next bit is 1. */
@@ -491,18 +496,22 @@ public final class PrefixLeader {
             bits[node] = length;
             goal[node] = isLine ? lines.goal[from] : comes;
             int half = lines.firstHigh(below, to, length);
-            low[node] = growSide(lines, below, half, goal[node]);
-            high[node] = growSide(lines, half, to, goal[node]);
+            low[node] = growSide(lines, below, half, node);
+            high[node] = growSide(lines, half, to, node);
             sets[node] = both(setOfSide(node, low[node]), setOfSide(node, high[node]));
             return node;
         }
 
-        private int growSide(Lines lines, int from, int to, int comes) {
+        private int growSide(Lines lines, int from, int to, int parent) {
             if (from < 0 || from >= to || to > lines.size) {
                 return NONE;
             }
             int length = lines.commonBits(from, to - 1);
-            return grow(lines, from, to, lines.address[from] & mask(length), length, comes);
+            // More bits at each level: there are no more levels than lengths.
+            if (length <= bits[parent]) {
+                return NONE;
+            }
+            return grow(lines, from, to, lines.address[from] & mask(length), length, goal[parent]);
         }
 
         /** THE SET of the BEGINNING one bit below a node, on the side of a child (or of none). */
@@ -572,9 +581,17 @@ public final class PrefixLeader {
             if ((set & 1 << comes) != 0) {
                 return comes;
             }
-            int leastGoal = Integer.numberOfTrailingZeros(set);
-            target.append(start, length, leastGoal);
-            return leastGoal;
+            int goes = leastOf(set);
+            target.append(start, length, goes);
+            return goes;
+        }
+
+        private static int leastOf(int set) {
+            int least = 0;
+            while (least < NOWHERE && (set & 1 << least) == 0) {
+                least++;
+            }
+            return least;
         }
     }
 
